@@ -807,12 +807,17 @@ public final class AngleNet {
         static final int OF_THIRDS = 0;
         static final int WANT_TOO_MUCH = 1;
         static final int WANT_TOO_LITTLE = 2;
+        /** Sets of thirds are looked up half by half: one row for all of them would be too long. */
+        private static final int HALF = MOST_THIRDS / 2;
+        private static final int SETS_OF_HALF = 1 << HALF;
 
         private final Net net;
         /** The posts of each third, as bits. */
         private final int[] postsOf;
-        /** What each post with a told sum has left, if all its corners have the least. */
-        private final int[] spare;
+        /** The posts of each set of the first thirds, then of each set of the other ones. */
+        private final int[] postsOfSets;
+        /** What the posts of each set have together, of what matters for a kind of bars. */
+        private final int[] totals;
         private int toldPosts;
         private int straight;
         private int least;
@@ -820,11 +825,15 @@ public final class AngleNet {
         Bars(Net net) {
             this.net = net;
             postsOf = new int[MOST_THIRDS];
-            spare = new int[MOST_POSTS];
+            postsOfSets = new int[2 * SETS_OF_HALF];
+            totals = new int[1 << MOST_POSTS];
         }
 
         int fewest(int kind, int straightNow, int leastNow) {
-            look(straightNow, leastNow);
+            straight = straightNow;
+            least = leastNow;
+            lookAtPosts(kind);
+            lookAtThirds();
             int all = kind == OF_THIRDS ? thirdsAtToldPosts() : toldPosts;
             int found = 0;
             // The sets come in the order of their bits, so that of several as few the first stays.
@@ -837,16 +846,27 @@ public final class AngleNet {
             return found;
         }
 
-        private void look(int straightNow, int leastNow) {
-            straight = straightNow;
-            least = leastNow;
+        /** For bars of thirds a post has its sum less the least for each of its corners. */
+        private void lookAtPosts(int kind) {
             toldPosts = 0;
             for (int p = 0; p < net.postCount(); p++) {
-                spare[p] = net.sumOf(p) - least * net.cornersAt(p);
-                toldPosts |= net.isTold(p) ? 1 << p : 0;
+                int bit = 1 << p;
+                int own = net.sumOf(p) - (kind == OF_THIRDS ? least * net.cornersAt(p) : 0);
+                toldPosts |= net.isTold(p) ? bit : 0;
+                for (int set = 0; set < bit; set++) {
+                    totals[bit + set] = totals[set] + own;
+                }
             }
+        }
+
+        private void lookAtThirds() {
             for (int k = 0; k < net.thirdCount(); k++) {
                 postsOf[k] = 1 << net.postOf(3 * k) | 1 << net.postOf(3 * k + 1) | 1 << net.postOf(3 * k + 2);
+                int none = k < HALF ? 0 : SETS_OF_HALF;
+                int bit = 1 << k % HALF;
+                for (int set = 0; set < bit; set++) {
+                    postsOfSets[none + bit + set] = postsOfSets[none + set] | postsOf[k];
+                }
             }
         }
 
@@ -861,43 +881,21 @@ public final class AngleNet {
         private boolean isBar(int kind, int set) {
             switch (kind) {
                 case OF_THIRDS:
-                    return lackRoom(set);
+                    return straight * Integer.bitCount(set) > roomFor(set);
                 case WANT_TOO_MUCH:
-                    return sumsOf(set) > mostOf(set);
+                    return totals[set] > mostOf(set);
                 default:
-                    return sumsOf(set) < leastOf(set);
+                    return totals[set] < leastOf(set);
             }
         }
 
-        /** Whether N times the thirds of a set is more than their posts can have of them. */
-        private boolean lackRoom(int thirds) {
-            int count = Integer.bitCount(thirds);
-            int posts = 0;
-            for (int k = 0; k < net.thirdCount(); k++) {
-                if ((thirds >> k & 1) != 0) {
-                    posts |= postsOf[k];
-                }
-            }
-            // The spare of the posts has the least taken off for the set's own corners too.
-            int room = 3 * least * count;
-            for (int p = 0; p < net.postCount(); p++) {
-                if ((posts >> p & 1) != 0) {
-                    room += spare[p];
-                }
-            }
-            return straight * count > room;
+        /** What their posts can have of a set of thirds: the least of its own corners is no loss. */
+        private int roomFor(int thirds) {
+            int posts = postsOfSets[thirds % SETS_OF_HALF] | postsOfSets[SETS_OF_HALF + thirds / SETS_OF_HALF];
+            return totals[posts] + 3 * least * Integer.bitCount(thirds);
         }
 
-        private int sumsOf(int posts) {
-            int together = 0;
-            for (int p = 0; p < net.postCount(); p++) {
-                if ((posts >> p & 1) != 0) {
-                    together += net.sumOf(p);
-                }
-            }
-            return together;
-        }
-
+        /** What the thirds of a set of posts can give to it. */
         private int mostOf(int posts) {
             int most = 0;
             for (int k = 0; k < net.thirdCount(); k++) {
@@ -907,6 +905,7 @@ public final class AngleNet {
             return most;
         }
 
+        /** What a set of posts must have. */
         private int leastOf(int posts) {
             int due = 0;
             for (int k = 0; k < net.thirdCount(); k++) {

@@ -239,9 +239,34 @@ public final class AnglesTest {
         CHECK.due("bar(0), the second third", net.bar(0), 2);
         net.tell(1, 4);
         CHECK.due("bar(0), of several the least", net.bar(0), 1);
+        barOfThirdsBesideOthers();
         CHECK.due("bar(-1)", net.bar(-1), OUTSIDE);
         CHECK.due("bar(3)", net.bar(3), OUTSIDE);
         CHECK.due("bar(MIN)", net.bar(Integer.MIN_VALUE), OUTSIDE);
+    }
+
+    /** Post 5 bars every giving by itself, so that bar(0) is looked at where no third is barred. */
+    private static void barOfThirdsBesideOthers() {
+        AngleNet net = Nets.of(6, Nets.FAN);
+        net.straight(12);
+        net.least(2);
+        net.tell(5, 1);
+        net.tell(0, 10);
+        net.tell(1, 4);
+        net.tell(2, 8);
+        CHECK.due("bar(0) beside another bar, just enough", net.bar(0), 0);
+        CHECK.due("bar(1) of post 5", net.bar(1), 32);
+        net.tell(2, 7);
+        CHECK.due("bar(0) beside another bar, one too few", net.bar(0), 1);
+        net.tell(0, 9);
+        net.tell(2, 9);
+        net.tell(3, 9);
+        // Third 0 has 3, 2 and 7 at most, third 1 has 3, 7 and 7; both have 9 + 4 + 9 + 9 - 8.
+        CHECK.due("bar(0), each has enough, not both", net.bar(0), 3);
+        net.tell(3, 10);
+        CHECK.due("bar(0), both have just enough", net.bar(0), 0);
+        net.tell(4, 0);
+        CHECK.due("bar(0), thirds 2 and 3 at a post with less than its least", net.bar(0), 4);
     }
 
     private static void barWantsTooMuch() {

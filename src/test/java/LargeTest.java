@@ -9,7 +9,7 @@ import java.util.Random;
  * stay. Both are looked at here set by set.
  */
 public final class LargeTest {
-    private static final int RUNS = 2000;
+    private static final int RUNS = 1200;
     private static final int UNTOLD = -6;
 
     private final Check check = new Check("LargeTest");
@@ -45,6 +45,7 @@ public final class LargeTest {
             checkRow(run, Nets.row(net), m);
         } else {
             check.holds(run + "a bar of posts", net.bar(1) != 0 || net.bar(2) != 0);
+            checkBars(run);
             for (int c = 0; c < at.length; c++) {
                 check.due(run + "angle(" + c + ")", net.angle(c), AngleNet.NONE);
             }
@@ -174,10 +175,26 @@ public final class LargeTest {
                 check.due(run + "sum of post " + p, have[p], sums[p]);
             }
         }
-        for (int what = 0; what < 3; what++) {
-            check.due(run + "bar(" + what + ")", net.bar(what), 0);
-        }
+        checkBars(run);
         checkFit(run, row);
+    }
+
+    private void checkBars(String run) {
+        Model model = new Model();
+        model.posts(posts);
+        model.straight(net.told(6));
+        model.least(net.told(7));
+        for (int c = 0; c < at.length; c += 3) {
+            model.third(at[c], at[c + 1], at[c + 2]);
+        }
+        for (int p = 0; p < posts; p++) {
+            if (sums[p] != UNTOLD) {
+                model.tell(p, sums[p]);
+            }
+        }
+        for (int what = 0; what < 3; what++) {
+            check.due(run + "bar(" + what + ")", net.bar(what), model.fewestBar(what));
+        }
     }
 
     private void checkFit(String run, int[] row) {

@@ -324,6 +324,11 @@ final class Model {
         if (what < 0 || what > 2) {
             return OUTSIDE;
         }
+        return row(least) == null ? fewestBar(what) : 0;
+    }
+
+    /** The same without a look whether there is a giving: a set that bars it can't be there then. */
+    int fewestBar(int what) {
         int size = what == 0 ? now.thirds.size() : n;
         int found = 0;
         for (int count = 1; count <= size && found == 0; count++) {
@@ -333,7 +338,7 @@ final class Model {
                 }
             }
         }
-        return found != 0 && row(least) == null ? found : 0;
+        return found;
     }
 
     private boolean barOfThirds(int set) {

@@ -58,7 +58,15 @@ public final class ModelTest {
     }
 
     private int post() {
-        return dice.nextInt(25) == 0 ? dice.nextInt(14) - 2 : dice.nextInt(model.told(0));
+        return dice.nextInt(25) == 0 ? wild() : dice.nextInt(model.told(0));
+    }
+
+    private int wild() {
+        int chance = dice.nextInt(20);
+        if (chance >= 16) {
+            return dice.nextInt();
+        }
+        return chance == 14 ? Integer.MIN_VALUE : chance == 15 ? Integer.MAX_VALUE : chance - 2;
     }
 
     private int among(int lowest, int highest) {
@@ -69,7 +77,7 @@ public final class ModelTest {
     private int sum(int post) {
         int chance = dice.nextInt(12);
         if (chance == 0) {
-            return new int[] {-2, -1, 0, 4000, 4001}[dice.nextInt(5)];
+            return new int[] {-2, -1, 0, 4000, 4001, wild()}[dice.nextInt(6)];
         }
         if (chance == 1) {
             return -1;
@@ -83,7 +91,7 @@ public final class ModelTest {
         int p = post();
         int q = post();
         int r = post();
-        int what = among(-1, 9);
+        int what = dice.nextInt(40) == 0 ? wild() : among(-1, 9);
         String name = place + NAMES[which] + "(" + p + ", " + q + ", " + r + "; " + what + ")";
         switch (which) {
             case 0: due(name, net.posts(p), model.posts(p)); break;
@@ -99,11 +107,11 @@ public final class ModelTest {
             case 6: due(name, net.about(p, what), model.about(p, what)); break;
             case 7: due(name, net.told(what), model.told(what)); break;
             case 8:
-                int n = among(4, 12);
+                int n = dice.nextInt(40) == 0 ? -Math.abs(wild()) : among(4, 12);
                 due(name + n, net.straight(n), model.straight(n));
                 break;
             case 9:
-                int m = among(0, 5);
+                int m = dice.nextInt(40) == 0 ? wild() : among(0, 5);
                 due(name + m, net.least(m), model.least(m));
                 break;
             case 10:

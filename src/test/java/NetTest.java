@@ -43,6 +43,10 @@ public final class NetTest {
         CHECK.due("undo() after posts()", net.undo(), STATE);
         CHECK.due("redo() after posts()", net.redo(), STATE);
         CHECK.due("can() after posts()", net.can(), 1);
+        net.tell(0, 1);
+        CHECK.due("can() with a sum", net.can(), 0);
+        CHECK.due("posts(3)", net.posts(3), 3);
+        CHECK.due("can() after posts()", net.can(), 1);
         CHECK.due("posts(9)", net.posts(9), 3);
         CHECK.due("posts(9)", net.posts(9), 9);
         net.third(6, 7, 8);
@@ -258,6 +262,14 @@ public final class NetTest {
         CHECK.due("told(2) of bare thirds", bare.told(2), 21);
         CHECK.due("told(4) of bare thirds", bare.told(4), -6);
         CHECK.due("told(5) of bare thirds", bare.told(5), 7);
+        // Twelve thirds of nine posts that have each pair of posts once: no two share a side.
+        AngleNet pairs = Nets.of(9, new int[][] {{0, 1, 2}, {3, 4, 5}, {6, 7, 8}, {0, 3, 6}, {1, 4, 7}, {2, 5, 8},
+            {0, 4, 8}, {1, 5, 6}, {2, 3, 7}, {0, 5, 7}, {1, 3, 8}, {2, 4, 6}});
+        int[] due = {9, 12, 36, 36, -15, 12};
+        for (int what = 0; what < due.length; what++) {
+            CHECK.due("told(" + what + ") of twelve thirds apart", pairs.told(what), due[what]);
+        }
+        CHECK.due("about(0, 1) of twelve thirds apart", pairs.about(0, 1), 8);
         // A strip whose two ends meet at post 0 alone.
         AngleNet strip = Nets.of(5, new int[][] {{0, 1, 2}, {2, 1, 3}, {2, 3, 4}, {4, 3, 0}});
         CHECK.due("told(4) of a strip", strip.told(4), 0);
