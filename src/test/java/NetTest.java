@@ -159,7 +159,7 @@ public final class NetTest {
 
     private static void turnRefused() {
         AngleNet net = Nets.of(6, Nets.FAN);
-        int[] before = Nets.all(net);
+        int[] before = Nets.all(Nets.of(6, Nets.FAN));
         int[][] unknown = {{0, 0}, {0, 6}, {6, 0}, {-1, 0}, {0, -1}, {0, 5}, {1, 3}, {5, 5}, {Integer.MIN_VALUE, 2}};
         for (int[] s : unknown) {
             CHECK.due("turn(" + s[0] + ", " + s[1] + ")", net.turn(s[0], s[1]), UNKNOWN);
@@ -167,18 +167,23 @@ public final class NetTest {
         CHECK.due("turn(1, 2) at the rim", net.turn(1, 2), STATE);
         CHECK.due("turn(2, 1) at the rim", net.turn(2, 1), STATE);
         CHECK.same("all after turn() was refused", Nets.all(net), before);
-        CHECK.due("turn(0, 1)", net.turn(0, 1), 1);
-        before = Nets.all(net);
-        CHECK.due("turn(0, 3), a side 2, 4 being there", net.turn(0, 3), NO);
-        CHECK.due("turn(3, 0), a side 2, 4 being there", net.turn(3, 0), NO);
-        CHECK.same("all after turn() was refused", Nets.all(net), before);
-        CHECK.due("undo() after turn() was refused", net.undo(), 4);
+        turnRefusedAfterTurn();
         AngleNet twice = Nets.of(3, new int[][] {{0, 1, 2}, {1, 0, 2}});
         CHECK.due("turn(0, 1), r and s being one", twice.turn(0, 1), NO);
         // A side r, s at the rim, with its arrow either way, is there too.
         AngleNet rim = Nets.of(5, new int[][] {{0, 1, 2}, {1, 0, 3}, {2, 3, 4}});
         CHECK.due("turn(0, 1), the arrow 2 to 3 being there", rim.turn(0, 1), NO);
         CHECK.due("turn(1, 0), the arrow 2 to 3 being there", rim.turn(1, 0), NO);
+    }
+
+    private static void turnRefusedAfterTurn() {
+        AngleNet net = Nets.of(6, Nets.FAN);
+        CHECK.due("turn(0, 1)", net.turn(0, 1), 1);
+        int[] before = Nets.all(net);
+        CHECK.due("turn(0, 3), a side 2, 4 being there", net.turn(0, 3), NO);
+        CHECK.due("turn(3, 0), a side 2, 4 being there", net.turn(3, 0), NO);
+        CHECK.same("all after turn() was refused", Nets.all(net), before);
+        CHECK.due("undo() after turn() was refused", net.undo(), 4);
     }
 
     private static void aboutCounts() {
@@ -262,9 +267,7 @@ public final class NetTest {
         CHECK.due("told(2) of bare thirds", bare.told(2), 21);
         CHECK.due("told(4) of bare thirds", bare.told(4), -6);
         CHECK.due("told(5) of bare thirds", bare.told(5), 7);
-        // Twelve thirds of nine posts that have each pair of posts once: no two share a side.
-        AngleNet pairs = Nets.of(9, new int[][] {{0, 1, 2}, {3, 4, 5}, {6, 7, 8}, {0, 3, 6}, {1, 4, 7}, {2, 5, 8},
-            {0, 4, 8}, {1, 5, 6}, {2, 3, 7}, {0, 5, 7}, {1, 3, 8}, {2, 4, 6}});
+        AngleNet pairs = Nets.of(9, Nets.APART);
         int[] due = {9, 12, 36, 36, -15, 12};
         for (int what = 0; what < due.length; what++) {
             CHECK.due("told(" + what + ") of twelve thirds apart", pairs.told(what), due[what]);
