@@ -286,6 +286,16 @@ public final class AngleEdgesTest {
         CHECK.same("the row, 179 at post 0", Nets.row(net), new int[] {1, 1, 178, 178, 1, 1});
         net.tell(0, 180);
         CHECK.same("the row, 180 at post 0", Nets.row(net), new int[] {2, 1, 177, 178, 1, 1});
+        net.tell(0, -1);
+        net.tell(4, 1);
+        CHECK.same("the row, 1 at post 4", Nets.row(net), new int[] {1, 1, 178, 1, 178, 1});
+        net.tell(3, 1);
+        CHECK.same("the row, 1 at posts 3 and 4", Nets.row(net), new int[] {1, 1, 178, 178, 1, 1});
+        net.tell(0, 180);
+        net.tell(3, -1);
+        CHECK.same("the row, 180 at post 0 and 1 at post 4", Nets.row(net), new int[] {2, 1, 177, 178, 1, 1});
+        net.tell(2, 1);
+        CHECK.same("the row, 1 at posts 2 and 4", Nets.row(net), new int[] {2, 177, 1, 178, 1, 1});
     }
 
     private static void rowOfAFullNet() {
@@ -361,6 +371,8 @@ public final class AngleEdgesTest {
         CHECK.due("best(), above m", net.best(), 30);
         CHECK.due("told(7) after best()", net.told(7), 2);
         CHECK.same("the row after best()", Nets.row(net), new int[] {30, 2, 148});
+        CHECK.due("best() after the row", net.best(), 30);
+        CHECK.same("the row after best() once more", Nets.row(net), new int[] {30, 2, 148});
     }
 
     private static void noBarsWhereThereIsAGiving() {

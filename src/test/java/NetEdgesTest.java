@@ -18,6 +18,7 @@ public final class NetEdgesTest {
         sideOfNoneOneOrTwo();
         freeOfRim();
         round();
+        roundBySidesAtThePostAlone();
         character();
         pieces();
         toTurn();
@@ -99,6 +100,7 @@ public final class NetEdgesTest {
         CHECK.same("all of posts anew", Nets.all(net), Nets.all(emptyNine()));
         CHECK.due("undo() after posts()", net.undo(), STATE);
         CHECK.due("redo() after posts()", net.redo(), STATE);
+        postsAnewAfterNoGiving();
         AngleNet same = Nets.of(4, Nets.TETRAHEDRON);
         same.tell(2, 50);
         same.undo();
@@ -106,6 +108,23 @@ public final class NetEdgesTest {
         CHECK.due("told(1) after as many posts", same.told(1), 0);
         CHECK.due("redo() after as many posts", same.redo(), STATE);
         CHECK.due("undo() after as many posts", same.undo(), STATE);
+    }
+
+    private static void postsAnewAfterNoGiving() {
+        for (int n = 3; n <= 9; n++) {
+            AngleNet net = Nets.of(9, Nets.APART);
+            for (int p = 0; p < 9; p++) {
+                net.tell(p, p % 2 == 0 ? 0 : 4000);
+            }
+            CHECK.due("can() ahead of posts(" + n + ")", net.can(), 0);
+            CHECK.due("posts(" + n + ")", net.posts(n), 9);
+            CHECK.due("can() after posts(" + n + ")", net.can(), 1);
+            CHECK.due("bar(1) after posts(" + n + ")", net.bar(1), 0);
+            CHECK.due("best() after posts(" + n + ")", net.best(), 60);
+            CHECK.due("third() after posts(" + n + ")", net.third(2, 1, 0), 0);
+            CHECK.due("angle(2) after posts(" + n + ")", net.angle(2), 178);
+            CHECK.due("can() with a third after posts(" + n + ")", net.can(), 1);
+        }
     }
 
     private static AngleNet emptyNine() {
@@ -268,6 +287,19 @@ public final class NetEdgesTest {
         wheel.undo();
         CHECK.due("about(0, 3) of an open wheel", wheel.about(0, 3), 1);
         CHECK.due("about(0, 2) of an open wheel", wheel.about(0, 2), 0);
+    }
+
+    private static void roundBySidesAtThePostAlone() {
+        // The two thirds at post 0 hang together by the sides 1, 2, then 1, 3, then 3, 4.
+        AngleNet net = Nets.of(5, new int[][] {{0, 1, 2}, {0, 3, 4}, {2, 1, 3}, {4, 3, 1}});
+        CHECK.due("told(5), all hang together", net.told(5), 1);
+        CHECK.due("about(0, 3), not by sides at it", net.about(0, 3), 0);
+        CHECK.due("about(1, 3), three in a chain", net.about(1, 3), 1);
+        CHECK.due("about(3, 3), three in a chain", net.about(3, 3), 1);
+        AngleNet two = Nets.of(4, new int[][] {{0, 1, 2}, {1, 0, 3}});
+        CHECK.due("about(0, 3), by the side 0, 1", two.about(0, 3), 1);
+        CHECK.due("about(1, 3), by the side 0, 1", two.about(1, 3), 1);
+        CHECK.due("about(2, 3), one third", two.about(2, 3), 1);
     }
 
     private static int[][] wheel() {
