@@ -31,17 +31,8 @@ public final class AngleEdgesTest {
 
     private static AngleNet one(int... sums) {
         AngleNet net = Nets.of(4, ONE);
-        tell(net, sums);
+        Nets.tell(net, sums);
         return net;
-    }
-
-    /** Tells the sums of the first posts; -1 leaves one as it is. */
-    private static void tell(AngleNet net, int... sums) {
-        for (int p = 0; p < sums.length; p++) {
-            if (sums[p] >= 0) {
-                net.tell(p, sums[p]);
-            }
-        }
     }
 
     private static void straightFromSixTo360() {
@@ -229,7 +220,7 @@ public final class AngleEdgesTest {
         CHECK.due("best() of the only giving", net.best(), 1);
         AngleNet ball = Nets.of(4, Nets.TETRAHEDRON);
         ball.least(60);
-        tell(ball, 180, 180, 180, 180);
+        Nets.tell(ball, 180, 180, 180, 180);
         CHECK.due("can(), just one giving of a ball", ball.can(), 1);
         CHECK.due("best()", ball.best(), 60);
         ball.tell(3, 181);
@@ -237,7 +228,7 @@ public final class AngleEdgesTest {
     }
 
     private static void theMostThatAPostCanHave() {
-        AngleNet net = wheel();
+        AngleNet net = Nets.of(9, Nets.WHEEL);
         net.straight(360);
         net.tell(0, 8 * 358);
         CHECK.due("can(), eight corners with the most", net.can(), 1);
@@ -253,7 +244,7 @@ public final class AngleEdgesTest {
     }
 
     private static void theFewestThatAPostCanHave() {
-        AngleNet net = wheel();
+        AngleNet net = Nets.of(9, Nets.WHEEL);
         net.straight(6);
         net.tell(0, 8);
         CHECK.due("can(), eight corners with the least", net.can(), 1);
@@ -265,15 +256,6 @@ public final class AngleEdgesTest {
         CHECK.due("bar(2)", net.bar(2), 1);
         net.tell(0, 0);
         CHECK.due("bar(2), the lowest sum", net.bar(2), 1);
-    }
-
-    private static AngleNet wheel() {
-        AngleNet net = new AngleNet();
-        net.posts(9);
-        for (int k = 0; k < 8; k++) {
-            net.third(0, k + 1, (k + 1) % 8 + 1);
-        }
-        return net;
     }
 
     private static void rowIsLeastAtTheFirstDifference() {
@@ -301,7 +283,7 @@ public final class AngleEdgesTest {
     private static void rowOfAFullNet() {
         AngleNet net = Nets.of(9, Nets.TWELVE);
         CHECK.due("angle(35), no sums", net.angle(35), 178);
-        tell(net, 358, 358, 358, 358, 358, 358, 6, 6);
+        Nets.tell(net, 358, 358, 358, 358, 358, 358, 6, 6);
         // What posts 6 and 7 have not, the others have: 12 times 180 together.
         CHECK.due("told(8)", net.told(8), 2160);
         CHECK.due("can() of a full net", net.can(), 1);

@@ -36,24 +36,15 @@ public final class BarEdgesTest {
         AngleNet net = Nets.of(posts, thirds);
         net.straight(12);
         net.least(2);
-        tell(net, sums);
+        Nets.tell(net, sums);
         return net;
     }
 
     private static AngleNet one(int least, int... sums) {
         AngleNet net = Nets.of(4, ONE);
         net.least(least);
-        tell(net, sums);
+        Nets.tell(net, sums);
         return net;
-    }
-
-    /** Tells the sums of the first posts; -1 leaves one as it is. */
-    private static void tell(AngleNet net, int... sums) {
-        for (int p = 0; p < sums.length; p++) {
-            if (sums[p] >= 0) {
-                net.tell(p, sums[p]);
-            }
-        }
     }
 
     private static void bars(String which, AngleNet net, int ofThirds, int tooMuch, int tooLittle) {
@@ -141,7 +132,7 @@ public final class BarEdgesTest {
         bars("posts 1 and 2 too high, post 0 too low", one(1, 0, 100, 80), 0, 6, 1);
         bars("a third has too few, and post 0 too low", one(1, 0, 178, 1), 1, 0, 1);
         AngleNet net = Nets.of(7, new int[][] {{0, 1, 2}, {4, 5, 6}});
-        tell(net, 60, 60, 59, 1, 60, 60, 61);
+        Nets.tell(net, 60, 60, 59, 1, 60, 60, 61);
         bars("a third, a post without corners, three posts", net, 1, 8, 7);
     }
 
@@ -218,7 +209,7 @@ public final class BarEdgesTest {
     private static void lastThirdAndLastPost() {
         AngleNet net = Nets.of(9, Nets.APART);
         // The last third is (2, 4, 6), and each of its posts has three corners more.
-        tell(net, -1, -1, 63, -1, 63, -1, 63);
+        Nets.tell(net, -1, -1, 63, -1, 63, -1, 63);
         bars("the last third, just enough", net, 0, 0, 0);
         net.tell(4, 62);
         bars("the last third, one too few", net, 2048, 0, 84);

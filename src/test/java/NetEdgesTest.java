@@ -279,7 +279,7 @@ public final class NetEdgesTest {
         AngleNet twice = Nets.of(3, Nets.DOUBLE);
         CHECK.due("about(2, 3) of two thirds of the same posts", twice.about(2, 3), 1);
         // Eight thirds at post 0, the most there can be: a closed round, then open by one.
-        AngleNet wheel = Nets.of(9, wheel());
+        AngleNet wheel = Nets.of(9, Nets.WHEEL);
         CHECK.due("about(0, 0) of a wheel", wheel.about(0, 0), 8);
         CHECK.due("about(0, 1) of a wheel", wheel.about(0, 1), 8);
         CHECK.due("about(0, 3) of a wheel", wheel.about(0, 3), 1);
@@ -302,14 +302,6 @@ public final class NetEdgesTest {
         CHECK.due("about(2, 3), one third", two.about(2, 3), 1);
     }
 
-    private static int[][] wheel() {
-        int[][] thirds = new int[8][];
-        for (int k = 0; k < 8; k++) {
-            thirds[k] = new int[] {0, k + 1, (k + 1) % 8 + 1};
-        }
-        return thirds;
-    }
-
     private static void character() {
         AngleNet net = new AngleNet();
         CHECK.due("told(4) without thirds", net.told(4), 0);
@@ -317,7 +309,7 @@ public final class NetEdgesTest {
         CHECK.due("told(4) of one third", net.told(4), 1);
         net.third(0, 2, 1);
         CHECK.due("told(4) of two thirds of the same posts", net.told(4), 2);
-        CHECK.due("told(4) of a round", Nets.of(9, wheel()).told(4), 1);
+        CHECK.due("told(4) of a round", Nets.of(9, Nets.WHEEL).told(4), 1);
         CHECK.due("told(4) of a full ball", Nets.of(9, Nets.TWELVE).told(4), 2);
         CHECK.due("told(4), the lowest: nine posts, 36 sides, twelve thirds", Nets.of(9, Nets.APART).told(4), -15);
         // Posts that only have a sum told are not counted.

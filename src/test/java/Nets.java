@@ -10,6 +10,8 @@ final class Nets {
     static final int[][] FAN = {{0, 1, 2}, {0, 2, 3}, {0, 3, 4}, {0, 4, 1}};
     /** Two thirds of the same three posts, the one the other way round. */
     static final int[][] DOUBLE = {{0, 1, 2}, {0, 2, 1}};
+    /** A round of eight thirds about post 0, the most that one post can have. */
+    static final int[][] WHEEL = {{0, 1, 2}, {0, 2, 3}, {0, 3, 4}, {0, 4, 5}, {0, 5, 6}, {0, 6, 7}, {0, 7, 8}, {0, 8, 1}};
     /** Twelve thirds, six at post 6 and six at post 7, on a round of the posts 0 to 5. */
     static final int[][] TWELVE = {{0, 1, 6}, {1, 2, 6}, {2, 3, 6}, {3, 4, 6}, {4, 5, 6}, {5, 0, 6},
         {1, 0, 7}, {2, 1, 7}, {3, 2, 7}, {4, 3, 7}, {5, 4, 7}, {0, 5, 7}};
@@ -27,6 +29,15 @@ final class Nets {
             net.third(third[0], third[1], third[2]);
         }
         return net;
+    }
+
+    /** Tells the sums of the first posts; -1 leaves one as it is. */
+    static void tell(AngleNet net, int... sums) {
+        for (int p = 0; p < sums.length; p++) {
+            if (sums[p] >= 0) {
+                net.tell(p, sums[p]);
+            }
+        }
     }
 
     static int[] corners(AngleNet net) {
