@@ -3,10 +3,8 @@ import java.util.List;
 import java.util.Random;
 
 /**
- * Promises 13 to 18 on nets up to the limits of the document, where the Model is too slow. A
- * giving exists just if no set of posts with told sums wants more or less than its thirds allow;
- * and a row that is a giving is THE ROW, if none of its corners can be lower while all before it
- * stay. Both are looked at here set by set.
+ * Promises 13 to 18 on nets up to the limits of the document, where the Model is too slow. A row
+ * that is a giving is THE ROW, if none of its corners can be lower while all before it stay.
  */
 public final class LargeTest {
     private static final int RUNS = 1200;
@@ -19,6 +17,7 @@ public final class LargeTest {
     private int[] at;
     private int[] sums;
     private int straight;
+    private Sets sets;
 
     public static void main(String[] args) {
         LargeTest test = new LargeTest();
@@ -38,7 +37,7 @@ public final class LargeTest {
         look();
         String run = "run " + number + " ";
         int m = net.told(7);
-        boolean can = allows(0, new int[at.length], m);
+        boolean can = sets.allow(m);
         check.due(run + "can()", net.can(), can ? 1 : 0);
         check.due(run + "best()", net.best(), best());
         check.due(run + "can() after best()", net.can(), can ? 1 : 0);
@@ -94,66 +93,16 @@ public final class LargeTest {
         for (int p = 0; p < posts; p++) {
             sums[p] = net.about(p, 4);
         }
+        sets = new Sets(straight, at, sums);
     }
 
     private int best() {
         for (int m = Math.min(60, straight / 3); m >= 1; m--) {
-            if (allows(0, new int[at.length], m)) {
+            if (sets.allow(m)) {
                 return m;
             }
         }
         return AngleNet.NONE;
-    }
-
-    /** Whether a giving has the first numbers of a row. */
-    private boolean allows(int fixed, int[] row, int m) {
-        int thirds = at.length / 3;
-        int[] left = new int[thirds];
-        int[] open = new int[thirds];
-        int[] due = sums.clone();
-        int[] openPosts = new int[thirds];
-        for (int c = 0; c < at.length; c++) {
-            int k = c / 3;
-            left[k] += c % 3 == 0 ? straight : 0;
-            if (c < fixed) {
-                left[k] -= row[c];
-                due[at[c]] -= sums[at[c]] == UNTOLD ? 0 : row[c];
-            } else {
-                open[k]++;
-                openPosts[k] |= 1 << at[c];
-            }
-        }
-        for (int k = 0; k < thirds; k++) {
-            if (left[k] < m * open[k] || open[k] == 0 && left[k] != 0) {
-                return false;
-            }
-        }
-        return allSetsAllow(left, openPosts, due, m);
-    }
-
-    private boolean allSetsAllow(int[] left, int[] openPosts, int[] due, int m) {
-        for (int set = 1; set < 1 << posts; set++) {
-            int wanted = 0;
-            boolean told = true;
-            for (int p = 0; p < posts; p++) {
-                if ((set >> p & 1) == 1) {
-                    wanted += due[p];
-                    told &= sums[p] != UNTOLD;
-                }
-            }
-            int most = 0;
-            int fewest = 0;
-            for (int k = 0; k < left.length; k++) {
-                int in = Integer.bitCount(openPosts[k] & set);
-                int out = Integer.bitCount(openPosts[k] & ~set);
-                most += in == 0 ? 0 : left[k] - m * out;
-                fewest += out == 0 ? in == 0 ? 0 : left[k] : m * in;
-            }
-            if (told && (wanted > most || wanted < fewest)) {
-                return false;
-            }
-        }
-        return true;
     }
 
     private void checkRow(String run, int[] row, int m) {
@@ -167,7 +116,7 @@ public final class LargeTest {
             if (row[c] > m) {
                 int[] lower = row.clone();
                 lower[c]--;
-                check.holds(run + "angle(" + c + ") can't be lower", !allows(c + 1, lower, m));
+                check.holds(run + "angle(" + c + ") can't be lower", !sets.allow(c + 1, lower, m));
             }
         }
         for (int p = 0; p < posts; p++) {

@@ -6,7 +6,7 @@ import java.util.List;
  * The document once more, as slowly and plainly as can be: givings are found by trying every
  * number for every corner, bars by the words of the document, acts are whole states kept.
  */
-final class Model {
+class Model {
     private static final int NONE = -6, UNKNOWN = -1, OUTSIDE = -2, STATE = -3, FULL = -4, NO = -5;
 
     private static final class Held {
@@ -299,8 +299,12 @@ final class Model {
         return false;
     }
 
+    boolean hasGiving(int m) {
+        return row(m) != null;
+    }
+
     int can() {
-        return row(least) == null ? 0 : 1;
+        return hasGiving(least) ? 1 : 0;
     }
 
     int angle(int corner) {
@@ -313,7 +317,7 @@ final class Model {
 
     int best() {
         for (int m = Math.min(60, straight / 3); m >= 1; m--) {
-            if (row(m) != null) {
+            if (hasGiving(m)) {
                 return m;
             }
         }
@@ -324,7 +328,7 @@ final class Model {
         if (what < 0 || what > 2) {
             return OUTSIDE;
         }
-        return row(least) == null ? fewestBar(what) : 0;
+        return hasGiving(least) ? 0 : fewestBar(what);
     }
 
     /** The same without a look whether there is a giving: a set that bars it can't be there then. */
